@@ -1,0 +1,44 @@
+/** Counts and prints what is not as due, with the sentence of the document that asks for it. */
+final class Due {
+    private static final int MOST_PRINTED = 10;
+
+    private static String sentence = "";
+    private static int sentences = 0;
+    private static int wrongHere = 0;
+    private static int broken = 0;
+
+    private Due() {
+    }
+
+    static String sentence() {
+        return sentence;
+    }
+
+    /** Runs the test of one sentence. */
+    static void sentence(String words, Runnable test) {
+        sentence = words;
+        sentences++;
+        wrongHere = 0;
+        test.run();
+        if (wrongHere > 0) {
+            broken++;
+            System.out.println("DOES NOT HOLD (" + wrongHere + " not as due): " + words);
+        }
+    }
+
+    static void same(String what, Object got, Object want) {
+        if (got.equals(want)) {
+            return;
+        }
+        wrongHere++;
+        if (wrongHere <= MOST_PRINTED) {
+            System.out.println(sentence + ": " + what + " answered " + got + ", due is " + want);
+        }
+    }
+
+    /** To be called last: ends the program, with code 1 if a sentence does not hold. */
+    static void end() {
+        System.out.println(sentences + " sentences tested, " + broken + " do not hold");
+        System.exit(broken == 0 ? 0 : 1);
+    }
+}
