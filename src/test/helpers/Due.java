@@ -19,7 +19,13 @@ final class Due {
         sentence = words;
         sentences++;
         wrongHere = 0;
-        test.run();
+        try {
+            test.run();
+        } catch (RuntimeException thrown) {
+            // No call may throw; caught here so that the other sentences are still tested.
+            wrongHere++;
+            System.out.println(words + ": " + thrown + " at " + thrown.getStackTrace()[0]);
+        }
         if (wrongHere > 0) {
             broken++;
             System.out.println("DOES NOT HOLD (" + wrongHere + " not as due): " + words);

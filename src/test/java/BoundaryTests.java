@@ -421,16 +421,22 @@ public final class BoundaryTests {
     }
 
     private static void aNewObjectSharesNothing() {
-        Run other = withEqualRecords(20, 1, 2, 3);
-        other.call("threshold", 1, 12);
+        // The shares are 3/6, too little for 3 / 5, and 4/5.
+        Run other = Run.with(span(0, 4), set(2, 3, 4, 5), span(1, 4));
+        other.call("threshold", 3, 5);
+        other.draft(7, 8, 9);
         Run x = new Run();
         x.due(0, "records");
         x.due(0, "clear");
-        x.record(0, 1);
-        x.record(1, 2);
-        x.due(0, "similar", 0, 1);
-        other.due(20, "records");
-        other.due(3, "clear");
+        x.record(10, 11, 12);
+        x.record(11, 12, 13);
+        x.due(1, "similar", 0, 1);
+        other.due(3, "records");
+        other.dueRecord(0, span(0, 4));
+        other.dueRecord(1, 2, 3, 4, 5);
+        other.due(0, "similar", 0, 1);
+        other.due(1, "similar", 0, 2);
+        other.dueDraft(7, 8, 9);
     }
 
     // Promise 2: token
