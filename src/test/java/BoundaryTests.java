@@ -128,17 +128,24 @@ public final class BoundaryTests {
     private static void the512CallsOfOneKind() {
         Run stores = new Run();
         stores.due(1, "token", 4);
-        for (int i = 0; stores.calls() < Run.MOST_CALLS; i++) {
+        for (int i = 0; stores.calls() < Run.MOST_CALLS - 2; i++) {
             stores.due(i < 20 ? i : -2, "store");
         }
+        stores.due(19, "remove", 0);
+        stores.due(19, "store");
         Run drafts = new Run();
-        for (int i = 0; drafts.calls() < Run.MOST_CALLS; i++) {
+        for (int i = 0; drafts.calls() < Run.MOST_CALLS - 2; i++) {
             drafts.due(i < 12 ? i + 1 : i % 30 < 12 ? 12 : -2, "token", i % 30);
         }
+        drafts.due(11, "drop", 0);
+        drafts.due(12, "token", 29);
         Run removes = withRecords(20);
-        for (int left = 19; removes.calls() < Run.MOST_CALLS; left--) {
+        for (int left = 19; removes.calls() < Run.MOST_CALLS - 3; left--) {
             removes.due(left >= 0 ? left : -1, "remove", 0);
         }
+        removes.due(1, "token", 0);
+        removes.due(0, "store");
+        removes.due(0, "remove", 0);
     }
 
     // Terms
