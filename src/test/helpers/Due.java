@@ -3,7 +3,7 @@ final class Due {
     private static final int MOST_PRINTED = 10;
 
     private static String sentence = "";
-    private static int sentences = 0;
+    private static int tests = 0;
     private static int wrongHere = 0;
     private static int broken = 0;
 
@@ -14,10 +14,10 @@ final class Due {
         return sentence;
     }
 
-    /** Runs the test of one sentence. */
+    /** Runs a test of one sentence. */
     static void sentence(String words, Runnable test) {
         sentence = words;
-        sentences++;
+        tests++;
         wrongHere = 0;
         try {
             test.run();
@@ -44,7 +44,7 @@ final class Due {
 
     /** To be called last: ends the program, with code 1 if a sentence does not hold. */
     static void end() {
-        System.out.println(sentences + " sentences tested, " + broken + " do not hold");
+        System.out.println(tests + " tests of sentences, " + broken + " fail");
         System.exit(broken == 0 ? 0 : 1);
     }
 }

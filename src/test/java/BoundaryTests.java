@@ -1323,7 +1323,7 @@ public final class BoundaryTests {
         Due.sentence("Terms: the threshold is t / u with 1 <= t <= u <= 12", BoundaryTests::thresholdPartsAre1To12);
         Due.sentence("Terms: the threshold is 1 / 2 at first", BoundaryTests::thresholdIsAHalfAtFirst);
         Due.sentence("Terms: similar if u times the common tokens is at least t times all tokens", BoundaryTests::similarIsAtLeast);
-        Due.sentence("Terms: two empty sets are similar too", BoundaryTests::anEmptyDraftIsSimilarToNoRecord);
+        Due.sentence("Terms: two empty sets are similar too (never seen from outside), an empty draft and a record are not", BoundaryTests::anEmptyDraftIsSimilarToNoRecord);
         Due.sentence("Terms: linked if they are the same record", BoundaryTests::linkedToItself);
         Due.sentence("Terms: linked if there is a chain of records", BoundaryTests::linkedByTheLongestChain);
         Due.sentence("Terms: a record's number is good if there is such a record", BoundaryTests::goodIfThereIsSuchARecord);
